@@ -20,18 +20,6 @@ public final class EndsTest {
         CHECKS.end();
     }
 
-    private static SpoolwrightYard yardOfLines(int count) {
-        SpoolwrightYard yard = new SpoolwrightYard();
-        yard.addHeat(0, 20000, true);
-        yard.addHeat(0, 20000, true);
-        yard.addWelder();
-        yard.ticket(0, 0, 999);
-        for (int i = 0; i < count; i++) {
-            yard.addLine(1);
-        }
-        return yard;
-    }
-
     private static void addWelded(SpoolwrightYard yard, int line, int parts) {
         for (int i = 0; i < parts; i++) {
             int part = yard.addPart(line, 's', 100);
@@ -49,7 +37,7 @@ public final class EndsTest {
 
     /** One line of three parts, tested in the circuit 0; a second line without parts. */
     private static SpoolwrightYard yardTested() {
-        SpoolwrightYard yard = yardOfLines(2);
+        SpoolwrightYard yard = Yards.ofLines(2);
         addWelded(yard, 0, 3);
         yard.look(0, 0, true);
         blindBoth(yard, 0);
@@ -60,7 +48,7 @@ public final class EndsTest {
     }
 
     private static void join() {
-        SpoolwrightYard yard = yardOfLines(3);
+        SpoolwrightYard yard = Yards.ofLines(3);
         CHECKS.refused("28: join(3, true, 0, true)", yard, Checks.INDEX, () -> yard.join(3, true, 0, true));
         CHECKS.refused("28: join(0, true, 3, true)", yard, Checks.INDEX, () -> yard.join(0, true, 3, true));
         CHECKS.refused("28: join(-1, true, -1, true)", yard, Checks.INDEX, () -> yard.join(-1, true, -1, true));
@@ -78,7 +66,7 @@ public final class EndsTest {
     }
 
     private static void joinBlindOnes() {
-        SpoolwrightYard yard = yardOfLines(2);
+        SpoolwrightYard yard = Yards.ofLines(2);
         yard.blind(0, true, true);
         CHECKS.refused("28: join(0, true, 0, true), blind", yard, Checks.ARGUMENT, () -> yard.join(0, true, 0, true));
         CHECKS.refused("28: join(0, true, 1, true)", yard, Checks.UNSUPPORTED, () -> yard.join(0, true, 1, true));
@@ -89,7 +77,7 @@ public final class EndsTest {
     }
 
     private static void blind() {
-        SpoolwrightYard yard = yardOfLines(2);
+        SpoolwrightYard yard = Yards.ofLines(2);
         CHECKS.refused("29: blind(2, true, true)", yard, Checks.INDEX, () -> yard.blind(2, true, true));
         CHECKS.refused("29: blind(-1, true, false)", yard, Checks.INDEX, () -> yard.blind(-1, true, false));
         CHECKS.due("29: blind(0, true, false)", yard.blind(0, true, false), false);
@@ -111,7 +99,7 @@ public final class EndsTest {
     private static void addCircuit() {
         SpoolwrightYard none = new SpoolwrightYard();
         CHECKS.refused("30: addCircuit(1) without lines", none, Checks.ARGUMENT, () -> none.addCircuit(1));
-        SpoolwrightYard yard = yardOfLines(2);
+        SpoolwrightYard yard = Yards.ofLines(2);
         CHECKS.refused("30: addCircuit(0)", yard, Checks.ARGUMENT, () -> yard.addCircuit(0));
         CHECKS.refused("30: addCircuit(-1)", yard, Checks.ARGUMENT, () -> yard.addCircuit(-1));
         CHECKS.refused("30: addCircuit(4)", yard, Checks.ARGUMENT, () -> yard.addCircuit(4));
@@ -131,7 +119,7 @@ public final class EndsTest {
     }
 
     private static void open() {
-        SpoolwrightYard yard = yardOfLines(4);
+        SpoolwrightYard yard = Yards.ofLines(4);
         yard.addCircuit(3);
         yard.addCircuit(1);
         yard.addCircuit(15);
@@ -150,7 +138,7 @@ public final class EndsTest {
     }
 
     private static void canTest() {
-        SpoolwrightYard yard = yardOfLines(1);
+        SpoolwrightYard yard = Yards.ofLines(1);
         addWelded(yard, 0, 2);
         yard.addCircuit(1);
         yard.look(0, 0, true);
@@ -180,7 +168,7 @@ public final class EndsTest {
     }
 
     private static void canTestByLooks() {
-        SpoolwrightYard yard = yardOfLines(2);
+        SpoolwrightYard yard = Yards.ofLines(2);
         addWelded(yard, 0, 3);
         addWelded(yard, 1, 2);
         blindBoth(yard, 0);
@@ -201,7 +189,7 @@ public final class EndsTest {
     }
 
     private static void canTestWithoutJoints() {
-        SpoolwrightYard yard = yardOfLines(2);
+        SpoolwrightYard yard = Yards.ofLines(2);
         yard.addPart(1, 'v', 0);
         yard.addCircuit(3);
         CHECKS.due("32: canTest(0), open without joints", yard.canTest(0), false);
@@ -252,7 +240,7 @@ public final class EndsTest {
         CHECKS.due("34: isTested(0), papers and days", yard.isTested(0), true);
         yard.give(0, 2, 1);
         CHECKS.due("34: isTested(0), other steel", yard.isTested(0), false);
-        SpoolwrightYard valve = yardOfLines(1);
+        SpoolwrightYard valve = Yards.ofLines(1);
         valve.addPart(0, 'v', 0);
         blindBoth(valve, 0);
         valve.addCircuit(1);
@@ -275,7 +263,7 @@ public final class EndsTest {
     }
 
     private static void isTestedNeverByWelds() {
-        SpoolwrightYard yard = yardOfLines(1);
+        SpoolwrightYard yard = Yards.ofLines(1);
         addWelded(yard, 0, 2);
         CHECKS.due("34: isTested(0), welded", yard.isTested(0), false);
         for (int i = 0; i < 2; i++) {

@@ -16,18 +16,6 @@ public final class PapersTest {
         CHECKS.end();
     }
 
-    private static SpoolwrightYard yardOfLines(int count) {
-        SpoolwrightYard yard = new SpoolwrightYard();
-        yard.addHeat(0, 20000, true);
-        yard.addHeat(0, 20000, true);
-        yard.addWelder();
-        yard.ticket(0, 0, 999);
-        for (int i = 0; i < count; i++) {
-            yard.addLine(1);
-        }
-        return yard;
-    }
-
     /** Two parts, their joint good, the line tested without the blinds left on. */
     private static void finish(SpoolwrightYard yard, int line) {
         for (int part = 0; part < 2; part++) {
@@ -44,7 +32,7 @@ public final class PapersTest {
     }
 
     private static void lack() {
-        SpoolwrightYard yard = yardOfLines(1);
+        SpoolwrightYard yard = Yards.ofLines(1);
         yard.addPart(0, 's', 100);
         CHECKS.refused("35: lack(0, 0) of one part", yard, Checks.INDEX, () -> yard.lack(0, 0));
         yard.addPart(0, 's', 100);
@@ -79,7 +67,7 @@ public final class PapersTest {
     }
 
     private static void lackInOrder() {
-        SpoolwrightYard yard = yardOfLines(1);
+        SpoolwrightYard yard = Yards.ofLines(1);
         finish(yard, 0);
         yard.blind(0, true, true);
         yard.losePaper(0);
@@ -97,7 +85,7 @@ public final class PapersTest {
     }
 
     private static void lackOfThePaperOfEither() {
-        SpoolwrightYard yard = yardOfLines(1);
+        SpoolwrightYard yard = Yards.ofLines(1);
         yard.addPart(0, 's', 100);
         yard.addPart(0, 's', 100);
         yard.give(0, 0, 0);
@@ -118,7 +106,7 @@ public final class PapersTest {
     }
 
     private static void lacks() {
-        SpoolwrightYard yard = yardOfLines(2);
+        SpoolwrightYard yard = Yards.ofLines(2);
         dueLacks(yard, "no joints", 0, 0, 0, 0, 0, 0, 0);
         finish(yard, 0);
         dueLacks(yard, "one done", 0, 0, 0, 0, 0, 0, 0);
@@ -146,7 +134,7 @@ public final class PapersTest {
     }
 
     private static void undone() {
-        SpoolwrightYard yard = yardOfLines(1);
+        SpoolwrightYard yard = Yards.ofLines(1);
         finish(yard, 0);
         yard.addPart(0, 's', 100);
         yard.give(0, 2, 0);
@@ -164,7 +152,7 @@ public final class PapersTest {
     }
 
     private static void ahead() {
-        SpoolwrightYard yard = yardOfLines(4);
+        SpoolwrightYard yard = Yards.ofLines(4);
         CHECKS.refused("38: ahead(4, 0)", yard, Checks.INDEX, () -> yard.ahead(4, 0));
         CHECKS.refused("38: ahead(0, 4)", yard, Checks.INDEX, () -> yard.ahead(0, 4));
         CHECKS.refused("38: ahead(-1, -1)", yard, Checks.INDEX, () -> yard.ahead(-1, -1));
@@ -181,7 +169,7 @@ public final class PapersTest {
     }
 
     private static void isReady() {
-        SpoolwrightYard yard = yardOfLines(2);
+        SpoolwrightYard yard = Yards.ofLines(2);
         CHECKS.due("39: isReady(0) without parts", yard.isReady(0), false);
         finish(yard, 0);
         CHECKS.due("39: isReady(0)", yard.isReady(0), true);
@@ -195,7 +183,7 @@ public final class PapersTest {
     }
 
     private static void isReadyBehindOthers() {
-        SpoolwrightYard yard = yardOfLines(4);
+        SpoolwrightYard yard = Yards.ofLines(4);
         for (int line = 0; line < 3; line++) {
             finish(yard, line);
         }
@@ -208,7 +196,7 @@ public final class PapersTest {
         CHECKS.due("39: isReady(2)", yard.isReady(2), false);
         yard.addPart(3, 's', 100);
         CHECKS.due("39: isReady(1), one ahead without a joint", yard.isReady(1), false);
-        SpoolwrightYard other = yardOfLines(2);
+        SpoolwrightYard other = Yards.ofLines(2);
         finish(other, 0);
         other.ahead(0, 1);
         CHECKS.due("39: isReady(0), one behind does not matter", other.isReady(0), true);
@@ -223,7 +211,7 @@ public final class PapersTest {
     }
 
     private static void turnover() {
-        SpoolwrightYard yard = yardOfLines(0);
+        SpoolwrightYard yard = Yards.ofLines(0);
         dueTurnovers(yard);
         for (int line = 0; line < 4; line++) {
             yard.addLine(1);
