@@ -23,7 +23,7 @@ final class Checks {
     }
 
     void refused(String call, SpoolwrightYard yard, Class<? extends RuntimeException> due, Call run) {
-        String before = View.of(yard);
+        String before = State.of(yard);
         Object got = "nothing";
         try {
             run.run();
@@ -31,7 +31,7 @@ final class Checks {
             got = e.getClass();
         }
         due(call + " throws", got, due);
-        due("the yard behind " + call, View.of(yard), before);
+        due("the yard behind " + call, State.of(yard), before);
     }
 
     void end() {

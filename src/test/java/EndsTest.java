@@ -20,33 +20,6 @@ public final class EndsTest {
         CHECKS.end();
     }
 
-    private static void addWelded(SpoolwrightYard yard, int line, int parts) {
-        for (int i = 0; i < parts; i++) {
-            int part = yard.addPart(line, 's', 100);
-            yard.give(line, part, 0);
-            if (part > 0) {
-                yard.weld(line, part - 1, 0);
-            }
-        }
-    }
-
-    private static void blindBoth(SpoolwrightYard yard, int line) {
-        yard.blind(line, false, true);
-        yard.blind(line, true, true);
-    }
-
-    /** One line of three parts, tested in the circuit 0; a second line without parts. */
-    private static SpoolwrightYard yardTested() {
-        SpoolwrightYard yard = Yards.ofLines(2);
-        addWelded(yard, 0, 3);
-        yard.look(0, 0, true);
-        blindBoth(yard, 0);
-        yard.addCircuit(1);
-        yard.testAll(0);
-        CHECKS.due("34: isTested(0)", yard.isTested(0), true);
-        return yard;
-    }
-
     private static void join() {
         SpoolwrightYard yard = Yards.ofLines(3);
         CHECKS.refused("28: join(3, true, 0, true)", yard, Checks.INDEX, () -> yard.join(3, true, 0, true));
@@ -85,7 +58,7 @@ public final class EndsTest {
         CHECKS.due("29: blind(0, true, true) again", yard.blind(0, true, true), true);
         CHECKS.due("29: blind(0, false, true)", yard.blind(0, false, true), false);
         CHECKS.due("29: blind(1, true, true)", yard.blind(1, true, true), false);
-        addWelded(yard, 0, 2);
+        Yards.addWelded(yard, 0, 2);
         CHECKS.due("29: blind(0, true, false), parts added", yard.blind(0, true, false), true);
         CHECKS.due("29: blind(0, true, false) again", yard.blind(0, true, false), false);
         yard.join(0, true, 1, false);
@@ -139,7 +112,7 @@ public final class EndsTest {
 
     private static void canTest() {
         SpoolwrightYard yard = Yards.ofLines(1);
-        addWelded(yard, 0, 2);
+        Yards.addWelded(yard, 0, 2);
         yard.addCircuit(1);
         yard.look(0, 0, true);
         CHECKS.due("32: canTest(0), open", yard.canTest(0), false);
@@ -169,10 +142,10 @@ public final class EndsTest {
 
     private static void canTestByLooks() {
         SpoolwrightYard yard = Yards.ofLines(2);
-        addWelded(yard, 0, 3);
-        addWelded(yard, 1, 2);
-        blindBoth(yard, 0);
-        blindBoth(yard, 1);
+        Yards.addWelded(yard, 0, 3);
+        Yards.addWelded(yard, 1, 2);
+        Yards.blindBoth(yard, 0, true);
+        Yards.blindBoth(yard, 1, true);
         yard.addCircuit(1);
         yard.addCircuit(3);
         CHECKS.due("32: canTest(0), no look", yard.canTest(0), false);
@@ -200,15 +173,15 @@ public final class EndsTest {
     }
 
     private static void testAll() {
-        SpoolwrightYard yard = yardTested();
+        SpoolwrightYard yard = Yards.ofTested();
         yard.addLine(1);
         yard.addCircuit(6);
         CHECKS.refused("33: testAll(2)", yard, Checks.INDEX, () -> yard.testAll(2));
         CHECKS.refused("33: testAll(-1)", yard, Checks.INDEX, () -> yard.testAll(-1));
         CHECKS.refused("33: testAll(1)", yard, Checks.UNSUPPORTED, () -> yard.testAll(1));
         CHECKS.due("33: testAll(0) again", yard.testAll(0), 1);
-        blindBoth(yard, 1);
-        blindBoth(yard, 2);
+        Yards.blindBoth(yard, 1, true);
+        Yards.blindBoth(yard, 2, true);
         CHECKS.due("33: testAll(1)", yard.testAll(1), 3);
         CHECKS.due("33: isTested(2)", yard.isTested(2), true);
         yard.addPart(0, 'v', 0);
@@ -217,7 +190,7 @@ public final class EndsTest {
     }
 
     private static void isTestedUntilParts() {
-        SpoolwrightYard yard = yardTested();
+        SpoolwrightYard yard = Yards.ofTested();
         CHECKS.due("34: isTested(1)", yard.isTested(1), false);
         CHECKS.refused("34: isTested(2)", yard, Checks.INDEX, () -> yard.isTested(2));
         CHECKS.refused("34: isTested(-1)", yard, Checks.INDEX, () -> yard.isTested(-1));
@@ -225,13 +198,13 @@ public final class EndsTest {
         CHECKS.due("34: isTested(0), a part elsewhere", yard.isTested(0), true);
         yard.addPart(0, 's', 100);
         CHECKS.due("34: isTested(0), a part added", yard.isTested(0), false);
-        SpoolwrightYard other = yardTested();
+        SpoolwrightYard other = Yards.ofTested();
         other.setLength(0, 0, 200);
         CHECKS.due("34: isTested(0), of another length", other.isTested(0), false);
     }
 
     private static void isTestedUntilSteel() {
-        SpoolwrightYard yard = yardTested();
+        SpoolwrightYard yard = Yards.ofTested();
         yard.losePaper(0);
         yard.test(0);
         yard.pass(1);
@@ -242,7 +215,7 @@ public final class EndsTest {
         CHECKS.due("34: isTested(0), other steel", yard.isTested(0), false);
         SpoolwrightYard valve = Yards.ofLines(1);
         valve.addPart(0, 'v', 0);
-        blindBoth(valve, 0);
+        Yards.blindBoth(valve, 0, true);
         valve.addCircuit(1);
         CHECKS.due("34: testAll(0) of a part without steel", valve.testAll(0), 1);
         valve.give(0, 0, 0);
@@ -250,10 +223,10 @@ public final class EndsTest {
     }
 
     private static void isTestedUntilWelds() {
-        SpoolwrightYard yard = yardTested();
+        SpoolwrightYard yard = Yards.ofTested();
         CHECKS.due("34: look(0, 1, true)", yard.look(0, 1, true), 'g');
         CHECKS.due("34: isTested(0), a good look", yard.isTested(0), true);
-        SpoolwrightYard other = yardTested();
+        SpoolwrightYard other = Yards.ofTested();
         other.look(0, 1, false);
         CHECKS.due("34: isTested(0), a bad look", other.isTested(0), false);
         other.repair(0, 1, 0);
@@ -264,7 +237,7 @@ public final class EndsTest {
 
     private static void isTestedNeverByWelds() {
         SpoolwrightYard yard = Yards.ofLines(1);
-        addWelded(yard, 0, 2);
+        Yards.addWelded(yard, 0, 2);
         CHECKS.due("34: isTested(0), welded", yard.isTested(0), false);
         for (int i = 0; i < 2; i++) {
             yard.look(0, 0, false);
@@ -280,8 +253,8 @@ public final class EndsTest {
     }
 
     private static void isTestedUntilEnds() {
-        SpoolwrightYard yard = yardTested();
-        blindBoth(yard, 1);
+        SpoolwrightYard yard = Yards.ofTested();
+        Yards.blindBoth(yard, 1, true);
         yard.addCircuit(2);
         yard.testAll(1);
         yard.blind(0, true, false);

@@ -125,28 +125,9 @@ public final class FiguresTest {
         CHECKS.due("44: isSound(), parted", yard.isSound(), true);
     }
 
-    private static SpoolwrightYard fullOne() {
-        SpoolwrightYard yard = new SpoolwrightYard();
-        for (int heat = 0; heat < 8; heat++) {
-            yard.addHeat(0, 5000, heat < 4);
-        }
-        for (int welder = 0; welder < 5; welder++) {
-            yard.addWelder();
-            yard.ticket(welder, 0, 999);
-        }
-        for (int line = 0; line < 4; line++) {
-            yard.addLine(3);
-            for (int part = 0; part < 10; part++) {
-                yard.addPart(line, 's', 500);
-                yard.give(line, part, line);
-            }
-        }
-        return yard;
-    }
-
     /** Each loop has to end with the last row where all rows are taken. */
     private static void fullYard() {
-        SpoolwrightYard yard = fullOne();
+        SpoolwrightYard yard = Yards.full();
         CHECKS.refused("15: bestHeat(3, 9, 0), full", yard, Checks.NONE, () -> yard.bestHeat(3, 9, 0));
         CHECKS.due("36: lacks('w'), full", yard.lacks('w'), 36);
         for (int joint = 0; joint < 9; joint++) {

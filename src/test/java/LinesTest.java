@@ -16,15 +16,6 @@ public final class LinesTest {
         CHECKS.end();
     }
 
-    private static SpoolwrightYard yardOf(String kinds, int... lengths) {
-        SpoolwrightYard yard = new SpoolwrightYard();
-        yard.addLine(1);
-        for (int i = 0; i < kinds.length(); i++) {
-            yard.addPart(0, kinds.charAt(i), lengths[i]);
-        }
-        return yard;
-    }
-
     private static void newYard() {
         SpoolwrightYard yard = new SpoolwrightYard();
         CHECKS.due("1: checksum()", yard.checksum(), 7L * 31 * 31);
@@ -54,7 +45,7 @@ public final class LinesTest {
     }
 
     private static void addPart() {
-        SpoolwrightYard yard = yardOf("");
+        SpoolwrightYard yard = Yards.ofKinds("");
         CHECKS.refused("3: addPart(-1,..)", yard, Checks.INDEX, () -> yard.addPart(-1, 'z', 0));
         CHECKS.refused("3: addPart(1,..)", yard, Checks.INDEX, () -> yard.addPart(1, 's', 100));
         CHECKS.refused("3: addPart(0, 'z', 100)", yard, Checks.ARGUMENT, () -> yard.addPart(0, 'z', 100));
@@ -76,7 +67,7 @@ public final class LinesTest {
     }
 
     private static void setLength() {
-        SpoolwrightYard yard = yardOf("sev", 500, 0, 0);
+        SpoolwrightYard yard = Yards.ofKinds("sev", 500, 0, 0);
         CHECKS.refused("4: setLength(1, 0, 99)", yard, Checks.INDEX, () -> yard.setLength(1, 0, 99));
         CHECKS.refused("4: setLength(-1, 0, 200)", yard, Checks.INDEX, () -> yard.setLength(-1, 0, 200));
         CHECKS.refused("4: setLength(0, 3, 99)", yard, Checks.INDEX, () -> yard.setLength(0, 3, 99));
@@ -92,7 +83,7 @@ public final class LinesTest {
     }
 
     private static void setLengthUndoes() {
-        SpoolwrightYard yard = yardOf("ssss", 100, 200, 300, 400);
+        SpoolwrightYard yard = Yards.ofKinds("ssss", 100, 200, 300, 400);
         yard.addHeat(0, 1000, true);
         yard.addWelder();
         yard.ticket(0, 0, 0);
@@ -116,7 +107,7 @@ public final class LinesTest {
     }
 
     private static void length() {
-        SpoolwrightYard yard = yardOf("");
+        SpoolwrightYard yard = Yards.ofKinds("");
         CHECKS.due("5: length(0) without parts", yard.length(0), 0);
         yard.addPart(0, 's', 6000);
         yard.addPart(0, 'e', 1);
@@ -131,7 +122,7 @@ public final class LinesTest {
     }
 
     private static void spoolsByLength() {
-        SpoolwrightYard yard = yardOf("");
+        SpoolwrightYard yard = Yards.ofKinds("");
         CHECKS.due("6: spools(0) without parts", yard.spools(0), 0);
         yard.addPart(0, 's', 6000);
         CHECKS.due("6: spools(0) of one part", yard.spools(0), 1);
@@ -145,21 +136,21 @@ public final class LinesTest {
         CHECKS.due("6: spools(0) of 12000 again", yard.spools(0), 1);
         CHECKS.refused("6: spools(1)", yard, Checks.INDEX, () -> yard.spools(1));
         CHECKS.refused("6: spools(-1)", yard, Checks.INDEX, () -> yard.spools(-1));
-        SpoolwrightYard long10 = yardOf("ssssssssss", 6000, 6000, 6000, 6000, 6000, 6000, 6000, 6000, 6000, 6000);
+        SpoolwrightYard long10 = Yards.ofKinds("ssssssssss", 6000, 6000, 6000, 6000, 6000, 6000, 6000, 6000, 6000, 6000);
         CHECKS.due("6: spools(0) of 60000", long10.spools(0), 5);
-        SpoolwrightYard uneven = yardOf("sssss", 5000, 5000, 5000, 5000, 2000);
+        SpoolwrightYard uneven = Yards.ofKinds("sssss", 5000, 5000, 5000, 5000, 2000);
         CHECKS.due("6: spools(0) of 22000", uneven.spools(0), 2);
     }
 
     private static void spoolsByElbows() {
-        SpoolwrightYard yard = yardOf("eeveeve", 0, 0, 0, 0, 0, 0, 0);
+        SpoolwrightYard yard = Yards.ofKinds("eeveeve", 0, 0, 0, 0, 0, 0, 0);
         CHECKS.due("6: spools(0) of five elbows", yard.spools(0), 3);
-        SpoolwrightYard valves = yardOf("vvvvvvvvvv", 0, 0, 0, 0, 0, 0, 0, 0, 0, 0);
+        SpoolwrightYard valves = Yards.ofKinds("vvvvvvvvvv", 0, 0, 0, 0, 0, 0, 0, 0, 0, 0);
         CHECKS.due("6: spools(0) of valves", valves.spools(0), 1);
     }
 
     private static void spoolOf() {
-        SpoolwrightYard yard = yardOf("eeveevss", 0, 0, 0, 0, 0, 0, 6000, 5400);
+        SpoolwrightYard yard = Yards.ofKinds("eeveevss", 0, 0, 0, 0, 0, 0, 6000, 5400);
         int[] due = {0, 0, 0, 1, 1, 1, 1, 2};
         for (int part = 0; part < due.length; part++) {
             CHECKS.due("7: spoolOf(0, " + part + ")", yard.spoolOf(0, part), due[part]);
@@ -172,7 +163,7 @@ public final class LinesTest {
     }
 
     private static void isField() {
-        SpoolwrightYard yard = yardOf("eeveevss", 0, 0, 0, 0, 0, 0, 6000, 5400);
+        SpoolwrightYard yard = Yards.ofKinds("eeveevss", 0, 0, 0, 0, 0, 0, 6000, 5400);
         boolean[] due = {false, false, true, false, false, false, true};
         for (int joint = 0; joint < due.length; joint++) {
             CHECKS.due("8: isField(0, " + joint + ")", yard.isField(0, joint), due[joint]);
@@ -180,7 +171,7 @@ public final class LinesTest {
         CHECKS.refused("8: isField(1, 0)", yard, Checks.INDEX, () -> yard.isField(1, 0));
         CHECKS.refused("8: isField(0, 7)", yard, Checks.INDEX, () -> yard.isField(0, 7));
         CHECKS.refused("8: isField(0, -1)", yard, Checks.INDEX, () -> yard.isField(0, -1));
-        SpoolwrightYard one = yardOf("s", 100);
+        SpoolwrightYard one = Yards.ofKinds("s", 100);
         CHECKS.refused("8: isField(0, 0) of one part", one, Checks.INDEX, () -> one.isField(0, 0));
     }
 }

@@ -16,21 +16,6 @@ public final class PapersTest {
         CHECKS.end();
     }
 
-    /** Two parts, their joint good, the line tested without the blinds left on. */
-    private static void finish(SpoolwrightYard yard, int line) {
-        for (int part = 0; part < 2; part++) {
-            yard.addPart(line, 's', 100);
-            yard.give(line, part, 0);
-        }
-        yard.weld(line, 0, 0);
-        yard.look(line, 0, true);
-        yard.blind(line, false, true);
-        yard.blind(line, true, true);
-        yard.testAll(yard.addCircuit(1 << line));
-        yard.blind(line, false, false);
-        yard.blind(line, true, false);
-    }
-
     private static void lack() {
         SpoolwrightYard yard = Yards.ofLines(1);
         yard.addPart(0, 's', 100);
@@ -68,7 +53,7 @@ public final class PapersTest {
 
     private static void lackInOrder() {
         SpoolwrightYard yard = Yards.ofLines(1);
-        finish(yard, 0);
+        Yards.finish(yard, 0);
         yard.blind(0, true, true);
         yard.losePaper(0);
         CHECKS.due("35: lack(0, 0), paper before blind", yard.lack(0, 0), 'p');
@@ -108,7 +93,7 @@ public final class PapersTest {
     private static void lacks() {
         SpoolwrightYard yard = Yards.ofLines(2);
         dueLacks(yard, "no joints", 0, 0, 0, 0, 0, 0, 0);
-        finish(yard, 0);
+        Yards.finish(yard, 0);
         dueLacks(yard, "one done", 0, 0, 0, 0, 0, 0, 0);
         for (int part = 0; part < 6; part++) {
             yard.addPart(1, 's', 100);
@@ -135,7 +120,7 @@ public final class PapersTest {
 
     private static void undone() {
         SpoolwrightYard yard = Yards.ofLines(1);
-        finish(yard, 0);
+        Yards.finish(yard, 0);
         yard.addPart(0, 's', 100);
         yard.give(0, 2, 0);
         CHECKS.due("37: undone()", yard.undone(), 0);
@@ -171,7 +156,7 @@ public final class PapersTest {
     private static void isReady() {
         SpoolwrightYard yard = Yards.ofLines(2);
         CHECKS.due("39: isReady(0) without parts", yard.isReady(0), false);
-        finish(yard, 0);
+        Yards.finish(yard, 0);
         CHECKS.due("39: isReady(0)", yard.isReady(0), true);
         yard.blind(0, true, true);
         CHECKS.due("39: isReady(0), a blind on", yard.isReady(0), false);
@@ -185,7 +170,7 @@ public final class PapersTest {
     private static void isReadyBehindOthers() {
         SpoolwrightYard yard = Yards.ofLines(4);
         for (int line = 0; line < 3; line++) {
-            finish(yard, line);
+            Yards.finish(yard, line);
         }
         yard.ahead(1, 2);
         yard.ahead(2, 0);
@@ -197,7 +182,7 @@ public final class PapersTest {
         yard.addPart(3, 's', 100);
         CHECKS.due("39: isReady(1), one ahead without a joint", yard.isReady(1), false);
         SpoolwrightYard other = Yards.ofLines(2);
-        finish(other, 0);
+        Yards.finish(other, 0);
         other.ahead(0, 1);
         CHECKS.due("39: isReady(0), one behind does not matter", other.isReady(0), true);
     }

@@ -15,17 +15,8 @@ public final class SteelTest {
         CHECKS.end();
     }
 
-    private static SpoolwrightYard yardOf(int... lengths) {
-        SpoolwrightYard yard = new SpoolwrightYard();
-        yard.addLine(1);
-        for (int length : lengths) {
-            yard.addPart(0, 's', length);
-        }
-        return yard;
-    }
-
     private static void addHeat() {
-        SpoolwrightYard yard = yardOf(100);
+        SpoolwrightYard yard = Yards.ofLengths(100);
         CHECKS.refused("9: addHeat(-1, 100, true)", yard, Checks.ARGUMENT, () -> yard.addHeat(-1, 100, true));
         CHECKS.refused("9: addHeat(4, 100, true)", yard, Checks.ARGUMENT, () -> yard.addHeat(4, 100, true));
         CHECKS.refused("9: addHeat(0, 99, true)", yard, Checks.ARGUMENT, () -> yard.addHeat(0, 99, true));
@@ -43,7 +34,7 @@ public final class SteelTest {
     }
 
     private static void left() {
-        SpoolwrightYard yard = yardOf(700, 300);
+        SpoolwrightYard yard = Yards.ofLengths(700, 300);
         yard.addHeat(0, 1000, true);
         yard.addHeat(0, 500, true);
         CHECKS.due("10: left(0)", yard.left(0), 1000);
@@ -59,7 +50,7 @@ public final class SteelTest {
     }
 
     private static void losePaper() {
-        SpoolwrightYard yard = yardOf(100);
+        SpoolwrightYard yard = Yards.ofLengths(100);
         yard.addHeat(0, 1000, true);
         yard.addHeat(1, 1000, true);
         CHECKS.due("11: losePaper(0)", yard.losePaper(0), true);
@@ -71,7 +62,7 @@ public final class SteelTest {
     }
 
     private static void test() {
-        SpoolwrightYard yard = yardOf(100);
+        SpoolwrightYard yard = Yards.ofLengths(100);
         yard.addHeat(0, 1000, false);
         CHECKS.due("12: test(0)", yard.test(0), false);
         CHECKS.due("12: test(0) again", yard.test(0), true);
@@ -83,7 +74,7 @@ public final class SteelTest {
     }
 
     private static void give() {
-        SpoolwrightYard yard = yardOf(700, 300);
+        SpoolwrightYard yard = Yards.ofLengths(700, 300);
         yard.addPart(0, 'e', 1);
         yard.addHeat(0, 1000, false);
         yard.addHeat(3, 699, true);
@@ -103,7 +94,7 @@ public final class SteelTest {
     }
 
     private static void giveUndoes() {
-        SpoolwrightYard yard = yardOf(100, 100, 100, 100);
+        SpoolwrightYard yard = Yards.ofLengths(100, 100, 100, 100);
         yard.addHeat(0, 1000, true);
         yard.addHeat(0, 1000, true);
         yard.addWelder();
@@ -129,7 +120,7 @@ public final class SteelTest {
     }
 
     private static void heatOf() {
-        SpoolwrightYard yard = yardOf(100, 200);
+        SpoolwrightYard yard = Yards.ofLengths(100, 200);
         yard.addHeat(0, 1000, true);
         yard.addHeat(1, 1000, true);
         CHECKS.refused("14: heatOf(0, 0)", yard, Checks.NONE, () -> yard.heatOf(0, 0));
@@ -144,7 +135,7 @@ public final class SteelTest {
     }
 
     private static void bestHeat() {
-        SpoolwrightYard yard = yardOf(500);
+        SpoolwrightYard yard = Yards.ofLengths(500);
         CHECKS.refused("15: bestHeat(0, 0, 0)", yard, Checks.NONE, () -> yard.bestHeat(0, 0, 0));
         yard.addHeat(0, 499, true);
         yard.addHeat(0, 900, true);
@@ -164,7 +155,7 @@ public final class SteelTest {
     }
 
     private static void bestHeatOfItsOwn() {
-        SpoolwrightYard yard = yardOf(500);
+        SpoolwrightYard yard = Yards.ofLengths(500);
         yard.addHeat(0, 999, true);
         yard.addHeat(0, 2000, true);
         yard.give(0, 0, 0);

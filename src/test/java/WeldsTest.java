@@ -19,30 +19,6 @@ public final class WeldsTest {
         CHECKS.end();
     }
 
-    /** A line of parts of 100 each, with steel of the alloy 0, and a welder with a ticket for it. */
-    private static SpoolwrightYard yardOf(int grade, int parts) {
-        SpoolwrightYard yard = new SpoolwrightYard();
-        yard.addLine(grade);
-        yard.addHeat(0, 20000, true);
-        yard.addWelder();
-        yard.ticket(0, 0, 10);
-        for (int part = 0; part < parts; part++) {
-            yard.addPart(0, 's', 100);
-            yard.give(0, part, 0);
-        }
-        return yard;
-    }
-
-    private static void weldAndLook(SpoolwrightYard yard, int joint, boolean isGood) {
-        yard.weld(0, joint, 0);
-        yard.look(0, joint, isGood);
-    }
-
-    private static void repairAndFail(SpoolwrightYard yard, int joint) {
-        yard.repair(0, joint, 0);
-        yard.look(0, joint, false);
-    }
-
     private static void addWelder() {
         SpoolwrightYard yard = new SpoolwrightYard();
         for (int i = 0; i < 5; i++) {
@@ -55,7 +31,7 @@ public final class WeldsTest {
     }
 
     private static void ticket() {
-        SpoolwrightYard yard = yardOf(1, 2);
+        SpoolwrightYard yard = Yards.ofClass(1, 2);
         yard.addWelder();
         CHECKS.refused("17: ticket(2, 0, 0)", yard, Checks.INDEX, () -> yard.ticket(2, 0, 0));
         CHECKS.refused("17: ticket(-1, 9, 0)", yard, Checks.INDEX, () -> yard.ticket(-1, 9, 0));
@@ -72,7 +48,7 @@ public final class WeldsTest {
     }
 
     private static void mayWeld() {
-        SpoolwrightYard yard = yardOf(1, 2);
+        SpoolwrightYard yard = Yards.ofClass(1, 2);
         yard.addPart(0, 's', 100);
         yard.addHeat(1, 1000, true);
         yard.addHeat(0, 1000, false);
@@ -100,7 +76,7 @@ public final class WeldsTest {
     }
 
     private static void weld() {
-        SpoolwrightYard yard = yardOf(1, 4);
+        SpoolwrightYard yard = Yards.ofClass(1, 4);
         yard.addWelder();
         CHECKS.refused("19: weld(1, 0, 0)", yard, Checks.INDEX, () -> yard.weld(1, 0, 0));
         CHECKS.refused("19: weld(0, 3, 0)", yard, Checks.INDEX, () -> yard.weld(0, 3, 0));
@@ -120,7 +96,7 @@ public final class WeldsTest {
     }
 
     private static void look() {
-        SpoolwrightYard yard = yardOf(1, 3);
+        SpoolwrightYard yard = Yards.ofClass(1, 3);
         CHECKS.refused("20: look(0, 0, true) of a new one", yard, Checks.UNSUPPORTED, () -> yard.look(0, 0, true));
         yard.weld(0, 0, 0);
         yard.weld(0, 1, 0);
@@ -138,7 +114,7 @@ public final class WeldsTest {
     }
 
     private static void repair() {
-        SpoolwrightYard yard = yardOf(1, 3);
+        SpoolwrightYard yard = Yards.ofClass(1, 3);
         yard.addWelder();
         CHECKS.refused("21: repair(0, 0, 0), new", yard, Checks.UNSUPPORTED, () -> yard.repair(0, 0, 0));
         yard.weld(0, 0, 0);
@@ -155,17 +131,17 @@ public final class WeldsTest {
         CHECKS.due("21: repair(0, 0, 0), the second", yard.repair(0, 0, 0), 2);
         yard.look(0, 0, false);
         CHECKS.refused("21: repair(0, 0, 0), a third", yard, Checks.UNSUPPORTED, () -> yard.repair(0, 0, 0));
-        weldAndLook(yard, 1, false);
+        Yards.weldAndLook(yard, 1, false);
         yard.pass(11);
         CHECKS.refused("21: repair(0, 1, 0), late", yard, Checks.UNSUPPORTED, () -> yard.repair(0, 1, 0));
     }
 
     private static void cutOut() {
-        SpoolwrightYard yard = yardOf(1, 3);
+        SpoolwrightYard yard = Yards.ofClass(1, 3);
         CHECKS.refused("22: cutOut(0, 0), new", yard, Checks.UNSUPPORTED, () -> yard.cutOut(0, 0));
-        weldAndLook(yard, 0, false);
+        Yards.weldAndLook(yard, 0, false);
         CHECKS.refused("22: cutOut(0, 0), no repair", yard, Checks.UNSUPPORTED, () -> yard.cutOut(0, 0));
-        repairAndFail(yard, 0);
+        Yards.repairAndFail(yard, 0);
         CHECKS.refused("22: cutOut(0, 0), one repair", yard, Checks.UNSUPPORTED, () -> yard.cutOut(0, 0));
         yard.repair(0, 0, 0);
         CHECKS.refused("22: cutOut(0, 0), not bad", yard, Checks.UNSUPPORTED, () -> yard.cutOut(0, 0));
@@ -176,23 +152,23 @@ public final class WeldsTest {
         CHECKS.due("22: cutOut(0, 0)", yard.cutOut(0, 0), 1);
         CHECKS.due("22: joint(0, 0)", yard.joint(0, 0), 'n');
         CHECKS.due("22: undone()", yard.undone(), 0);
-        weldAndLook(yard, 0, false);
+        Yards.weldAndLook(yard, 0, false);
         CHECKS.due("22: repair(0, 0, 0) anew", yard.repair(0, 0, 0), 1);
-        weldAndLook(yard, 1, false);
-        repairAndFail(yard, 1);
-        repairAndFail(yard, 1);
+        Yards.weldAndLook(yard, 1, false);
+        Yards.repairAndFail(yard, 1);
+        Yards.repairAndFail(yard, 1);
         CHECKS.due("22: cutOut(0, 1), the second of all", yard.cutOut(0, 1), 2);
     }
 
     private static void joint() {
-        SpoolwrightYard yard = yardOf(1, 3);
+        SpoolwrightYard yard = Yards.ofClass(1, 3);
         CHECKS.due("23: joint(0, 0)", yard.joint(0, 0), 'n');
         yard.weld(0, 0, 0);
         CHECKS.due("23: joint(0, 0) welded", yard.joint(0, 0), 'w');
         CHECKS.due("23: joint(0, 1)", yard.joint(0, 1), 'n');
         yard.look(0, 0, true);
         CHECKS.due("23: joint(0, 0) good", yard.joint(0, 0), 'g');
-        weldAndLook(yard, 1, false);
+        Yards.weldAndLook(yard, 1, false);
         CHECKS.due("23: joint(0, 1) bad", yard.joint(0, 1), 'b');
         yard.setLength(0, 0, 200);
         CHECKS.due("23: joint(0, 0) undone", yard.joint(0, 0), 'n');
@@ -205,7 +181,7 @@ public final class WeldsTest {
     }
 
     private static void welderOf() {
-        SpoolwrightYard yard = yardOf(1, 3);
+        SpoolwrightYard yard = Yards.ofClass(1, 3);
         yard.addWelder();
         yard.ticket(1, 0, 0);
         CHECKS.refused("24: welderOf(0, 0), new", yard, Checks.NONE, () -> yard.welderOf(0, 0));
@@ -216,7 +192,7 @@ public final class WeldsTest {
         yard.repair(0, 0, 0);
         CHECKS.due("24: welderOf(0, 0), repaired", yard.welderOf(0, 0), 0);
         yard.look(0, 0, false);
-        repairAndFail(yard, 0);
+        Yards.repairAndFail(yard, 0);
         yard.cutOut(0, 0);
         CHECKS.refused("24: welderOf(0, 0), cut out", yard, Checks.NONE, () -> yard.welderOf(0, 0));
         yard.weld(0, 1, 0);
@@ -231,33 +207,33 @@ public final class WeldsTest {
             {0, 0, 1, 2, 3, 4, 5, 6, 7, 8, 9}};
         for (int grade = 1; grade <= 3; grade++) {
             for (int parts = 0; parts <= 10; parts++) {
-                int got = yardOf(grade, parts).toLook(0);
+                int got = Yards.ofClass(grade, parts).toLook(0);
                 CHECKS.due("25: toLook of class " + grade + " with " + parts + " parts", got, due[grade - 1][parts]);
             }
         }
-        SpoolwrightYard yard = yardOf(2, 10);
-        weldAndLook(yard, 0, true);
+        SpoolwrightYard yard = Yards.ofClass(2, 10);
+        Yards.weldAndLook(yard, 0, true);
         CHECKS.due("25: toLook(0) behind a good look", yard.toLook(0), 1);
-        weldAndLook(yard, 1, true);
-        weldAndLook(yard, 2, true);
+        Yards.weldAndLook(yard, 1, true);
+        Yards.weldAndLook(yard, 2, true);
         CHECKS.due("25: toLook(0) behind more than are due", yard.toLook(0), 0);
         CHECKS.refused("25: toLook(1)", yard, Checks.INDEX, () -> yard.toLook(1));
         CHECKS.refused("25: toLook(-1)", yard, Checks.INDEX, () -> yard.toLook(-1));
     }
 
     private static void toLookBehindBadOnes() {
-        SpoolwrightYard yard = yardOf(1, 6);
-        weldAndLook(yard, 0, false);
+        SpoolwrightYard yard = Yards.ofClass(1, 6);
+        Yards.weldAndLook(yard, 0, false);
         CHECKS.due("25: toLook(0), 3 due, a bad one looked at", yard.toLook(0), 2);
         yard.repair(0, 0, 0);
         CHECKS.due("25: toLook(0) as it is repaired", yard.toLook(0), 3);
         yard.look(0, 0, true);
         CHECKS.due("25: toLook(0) as it is good", yard.toLook(0), 2);
-        weldAndLook(yard, 1, false);
+        Yards.weldAndLook(yard, 1, false);
         CHECKS.due("25: toLook(0), 5 due, 2 looked at", yard.toLook(0), 3);
-        repairAndFail(yard, 1);
+        Yards.repairAndFail(yard, 1);
         CHECKS.due("25: toLook(0), all due", yard.toLook(0), 3);
-        repairAndFail(yard, 1);
+        Yards.repairAndFail(yard, 1);
         yard.cutOut(0, 1);
         CHECKS.due("25: toLook(0) behind the cut", yard.toLook(0), 4);
         yard.setLength(0, 0, 200);
@@ -270,7 +246,7 @@ public final class WeldsTest {
     }
 
     private static void failed() {
-        SpoolwrightYard yard = yardOf(1, 4);
+        SpoolwrightYard yard = Yards.ofClass(1, 4);
         yard.addWelder();
         yard.ticket(1, 0, 0);
         CHECKS.due("26: failed(0)", yard.failed(0), 0);
@@ -278,12 +254,12 @@ public final class WeldsTest {
         yard.look(0, 0, false);
         CHECKS.due("26: failed(1)", yard.failed(1), 1);
         CHECKS.due("26: failed(0), not his", yard.failed(0), 0);
-        repairAndFail(yard, 0);
+        Yards.repairAndFail(yard, 0);
         CHECKS.due("26: failed(0), his repair", yard.failed(0), 1);
         CHECKS.due("26: failed(1), not again", yard.failed(1), 1);
-        repairAndFail(yard, 0);
+        Yards.repairAndFail(yard, 0);
         yard.cutOut(0, 0);
-        weldAndLook(yard, 1, true);
+        Yards.weldAndLook(yard, 1, true);
         CHECKS.due("26: failed(0) behind the cut and a good one", yard.failed(0), 2);
         yard.setLength(0, 0, 500);
         CHECKS.due("26: failed(1) behind a change", yard.failed(1), 1);
